@@ -697,6 +697,7 @@ public final class LessonSpiral {
                     }
                 }
             }
+            // Laws 2 and 4 leave this one nothing to find; it stands as the document has it.
             for (int week = 0; week < WEEKS; week++) {
                 if (course.hasSnow(week) && loadOf(week) != 0) {
                     return 600 + week;

@@ -163,6 +163,8 @@ public final class PromisesTest {
         due("6 at first", x.standards(2, 65535), 0);
         due("6 then", x.standards(2, 1), 65535);
         due("6 of", x.of(2, 4), 1);
+        due("6 none", x.standards(2, 0), 1);
+        due("6 was none", x.standards(2, 1), 0);
         due("6 bit 16", x.standards(0, 65536), BEYOND);
         due("6 below", x.standards(0, -1), BEYOND);
         due("6 lowest", x.standards(0, MIN), BEYOND);
@@ -552,6 +554,13 @@ public final class PromisesTest {
         x.put(2, 4);
         x.need(0, 2, true);
         due("18 what a strand needs is not looked at", x.fault(), 0);
+        LessonSpiral y = plain(1, 1);
+        y.need(1, 0, true);
+        y.put(0, 3);
+        y.put(1, 3);
+        due("18 law 3, the second topic", y.fault(), 301);
+        y.put(1, 4);
+        due("18 law 3, kept by it", y.fault(), 0);
     }
 
     private static void load() {
@@ -567,6 +576,9 @@ public final class PromisesTest {
             due("19 load " + w, x.load(w), want[w]);
         }
         x.snow(1, true);
+        LessonSpiral y = new LessonSpiral();
+        y.topic(2, 9);
+        due("19 the first topic a strand", y.load(0), 1);
         due("19 snow takes strands alone", x.load(1), 14);
         due("19 above", x.load(6), BEYOND);
         due("19 below", x.load(-1), BEYOND);
@@ -768,6 +780,10 @@ public final class PromisesTest {
         due("24 unneeded", y.late(1, true), 9);
         y.need(1, 0, false);
         due("24 nothing is needed", y.late(2, true), 0);
+        LessonSpiral z = plain(1, 2);
+        z.need(0, 1, true);
+        z.put(1, 0);
+        due("24 needed by one without a week", z.late(1, false), 0);
     }
 
     private static void met() {
@@ -786,6 +802,10 @@ public final class PromisesTest {
         x.standards(2, 65535);
         due("25 all", x.met(false), 65535);
         due("25 none missing", x.met(true), 0);
+        x.standards(2, 0);
+        x.put(1, -1);
+        x.put(0, 5);
+        due("25 topic 0", x.met(false), 1);
     }
 
     private static void only() {
@@ -976,6 +996,29 @@ public final class PromisesTest {
         due("30 findings and sheets are not kept", y.undo(), 6);
         y.topic(2, 1);
         due("30 an act behind undo", y.undo(), 6);
+        topicAnew();
+    }
+
+    /** A topic that takes the number of one that was undone has nothing of it. */
+    private static void topicAnew() {
+        LessonSpiral x = plain(1);
+        x.topic(3, 9);
+        x.need(1, 0, true);
+        x.comes(1, 3);
+        x.standards(1, 7);
+        x.partner(1, 0);
+        x.put(1, 2);
+        x.again(1, 3);
+        x.book(1, 5);
+        for (int i = 0; i < 8; i++) {
+            x.undo();
+        }
+        due("30 anew", x.topic(3, 2), 1);
+        int[] want = {3, 2, 0, 0, 0, -1, -1, 0};
+        for (int what = 0; what < 8; what++) {
+            due("30 anew, of " + what, x.of(1, what), want[what]);
+        }
+        due("30 anew, partner", x.partner(1, 0), -1);
     }
 
     private static void told() {
