@@ -785,6 +785,69 @@ public final class LessonSpiral {
         }
     }
 
+    /** A topic in the search: what is the same in all plans, worked out once, and its weeks in this one. */
+    private static final class Place {
+        private static final int OPTIONS_MOST = WEEKS * (WEEKS + 1);
+
+        private final int[] firsts;
+        private final int[] seconds;
+        private final int[] moves;
+        private int options;
+        private int topic;
+        private int hours;
+        private int first;
+        private int second;
+        private int bestFirst;
+        private int bestSecond;
+
+        Place() {
+            firsts = new int[OPTIONS_MOST];
+            seconds = new int[OPTIONS_MOST];
+            moves = new int[OPTIONS_MOST];
+        }
+
+        /** The weeks that a topic's own laws leave it, in the order in which plans are told. */
+        void begin(int newTopic, Course course, Laws laws) {
+            topic = newTopic;
+            hours = course.get(Course.HOURS, topic);
+            options = 0;
+            for (int f = 0; f < WEEKS; f++) {
+                for (int s = NOT_SET; s < WEEKS; s++) {
+                    if (laws.areForTopic(topic, f, s)) {
+                        addOption(course, f, s);
+                    }
+                }
+            }
+        }
+
+        private void addOption(Course course, int f, int s) {
+            if (options < OPTIONS_MOST) {
+                firsts[options] = f;
+                seconds[options] = s;
+                int firstMoves = f == course.get(Course.FIRST, topic) ? 0 : 1;
+                int secondMoves = s == course.get(Course.SECOND, topic) ? 0 : 1;
+                moves[options] = firstMoves + secondMoves;
+                options++;
+            }
+        }
+
+        /** The caller has seen that there is such an option. */
+        void choose(int option) {
+            first = firsts[option];
+            second = seconds[option];
+        }
+
+        void keepAsBest() {
+            bestFirst = first;
+            bestSecond = second;
+        }
+
+        void settleIn(Course course) {
+            course.set(Course.FIRST, topic, bestFirst);
+            course.set(Course.SECOND, topic, bestSecond);
+        }
+    }
+
     /**
      * Goes through all whole plans in the order in which they are told: topic by topic, first week,
      * then second. A plan is left as soon as one of its laws is broken or, where one plan is sought,
@@ -796,23 +859,14 @@ public final class LessonSpiral {
         static final int COUNT = 2;
 
         private static final int LONGEST = 4;
-        private static final int OPTIONS_MOST = WEEKS * (WEEKS + 1);
 
         private final Course course;
         private final Laws laws;
-        private final int[] topics;
-        private final int[][] firstOptions;
-        private final int[][] secondOptions;
-        private final int[] optionCounts;
-        private final int[] firsts;
-        private final int[] seconds;
-        private final int[] bestFirsts;
-        private final int[] bestSeconds;
+        private final Place[] places;
+        private final int[] rooms;
         private final int[] loads;
         private int aim;
         private int size;
-        private int moves;
-        private int evenness;
         private int count;
         private int bestMoves;
         private int bestEvenness;
@@ -820,14 +874,11 @@ public final class LessonSpiral {
         Search(Course course, Laws laws) {
             this.course = course;
             this.laws = laws;
-            topics = new int[LONGEST];
-            firstOptions = new int[LONGEST][OPTIONS_MOST];
-            secondOptions = new int[LONGEST][OPTIONS_MOST];
-            optionCounts = new int[LONGEST];
-            firsts = new int[LONGEST];
-            seconds = new int[LONGEST];
-            bestFirsts = new int[LONGEST];
-            bestSeconds = new int[LONGEST];
+            places = new Place[LONGEST];
+            for (int i = 0; i < LONGEST; i++) {
+                places[i] = new Place();
+            }
+            rooms = new int[WEEKS];
             loads = new int[WEEKS];
         }
 
@@ -851,126 +902,133 @@ public final class LessonSpiral {
         /** The caller has seen that it is not too long. */
         void run(int newAim) {
             aim = newAim;
-            moves = 0;
-            evenness = 0;
             count = 0;
-            listTopics();
+            listPlaces();
             if (startLoads()) {
-                place(0);
+                place(0, 0, startEvenness());
             }
         }
 
         /** The plan that was found becomes the course's own. */
         void settle() {
             for (int i = 0; i < size; i++) {
-                course.set(Course.FIRST, topics[i], bestFirsts[i]);
-                course.set(Course.SECOND, topics[i], bestSeconds[i]);
+                places[i].settleIn(course);
             }
         }
 
-        private void listTopics() {
+        private void listPlaces() {
             size = 0;
             for (int t = 0; t < course.size() && size < LONGEST; t++) {
                 if (!course.isStrand(t)) {
-                    topics[size] = t;
-                    listOptions(size, t);
+                    places[size].begin(t, course, laws);
                     size++;
                 }
             }
-        }
-
-        /** The weeks that the topic's own laws leave it; they are the same in all plans. */
-        private void listOptions(int place, int topic) {
-            int n = 0;
-            for (int first = 0; first < WEEKS; first++) {
-                for (int second = NOT_SET; second < WEEKS; second++) {
-                    if (laws.areForTopic(topic, first, second) && n < OPTIONS_MOST) {
-                        firstOptions[place][n] = first;
-                        secondOptions[place][n] = second;
-                        n++;
-                    }
-                }
-            }
-            optionCounts[place] = n;
         }
 
         /** Strands stand in every plan; false if they alone are more than a week's room. */
         private boolean startLoads() {
             boolean allFit = true;
             for (int week = 0; week < WEEKS; week++) {
-                loads[week] = 0;
-                burden(week, laws.strandLoad(week));
-                allFit &= fits(week);
+                rooms[week] = course.roomOf(week);
+                loads[week] = laws.strandLoad(week);
+                allFit &= loads[week] <= rooms[week];
             }
             return allFit;
         }
 
-        private void place(int depth) {
+        private int startEvenness() {
+            int sum = 0;
+            for (int week = 0; week < WEEKS; week++) {
+                sum += loads[week] * loads[week];
+            }
+            return sum;
+        }
+
+        private void place(int depth, int moves, int evenness) {
             if (depth >= size) {
-                keepPlan();
+                keepPlan(moves, evenness);
                 return;
             }
-            for (int i = 0; i < optionCounts[depth]; i++) {
-                firsts[depth] = firstOptions[depth][i];
-                seconds[depth] = secondOptions[depth][i];
-                if (agreesWithEarlier(depth)) {
-                    goOn(depth, firsts[depth], seconds[depth]);
+            Place here = places[depth];
+            int earliest = earliestFirst(depth);
+            int latest = latestFirst(depth);
+            for (int i = 0; i < here.options; i++) {
+                int first = here.firsts[i];
+                if (first >= earliest && first <= latest && fits(here.hours, first, here.seconds[i])) {
+                    here.choose(i);
+                    goOn(depth, moves + here.moves[i], evenness);
                 }
             }
         }
 
-        private void goOn(int depth, int first, int second) {
-            int topic = topics[depth];
-            int hours = course.get(Course.HOURS, topic);
-            int moved = movesOf(topic, first, second);
-            burden(first, hours);
-            burden(second, 1);
-            moves += moved;
-            if (fits(first) && fits(second) && canBeBest()) {
-                place(depth + 1);
+        private void goOn(int depth, int moves, int evenness) {
+            Place here = places[depth];
+            int grown = evenness + growth(here.first, here.hours) + growth(here.second, 1);
+            if (canBeBest(moves, grown)) {
+                burden(here.first, here.hours);
+                burden(here.second, 1);
+                place(depth + 1, moves, grown);
+                burden(here.first, -here.hours);
+                burden(here.second, -1);
             }
-            moves -= moved;
-            burden(second, -1);
-            burden(first, -hours);
         }
 
-        private int movesOf(int topic, int first, int second) {
-            int firstMoves = first == course.get(Course.FIRST, topic) ? 0 : 1;
-            int secondMoves = second == course.get(Course.SECOND, topic) ? 0 : 1;
-            return firstMoves + secondMoves;
+        /** By how much hours in a week make the sum of squares greater. */
+        private int growth(int week, int hours) {
+            return week == NOT_SET ? 0 : hours * (2 * loads[week] + hours);
         }
 
         private void burden(int week, int hours) {
             if (week != NOT_SET) {
-                evenness += hours * (2 * loads[week] + hours);
                 loads[week] += hours;
             }
         }
 
-        private boolean fits(int week) {
-            return week == NOT_SET || loads[week] <= course.roomOf(week);
+        /** First and second are never one week, so each is looked at for itself. */
+        private boolean fits(int hours, int first, int second) {
+            return loads[first] + hours <= rooms[first] && (second == NOT_SET || loads[second] < rooms[second]);
         }
 
-        /** Of laws 3 and 5 what is between a topic and each one that has been placed. */
-        private boolean agreesWithEarlier(int depth) {
+        /** By laws 3 and 5, beside the topics that have been placed. */
+        private int earliestFirst(int depth) {
+            int week = 0;
             for (int i = 0; i < depth; i++) {
-                if (!isInOrder(depth, i) || !isInOrder(i, depth) || !isTogether(depth, i) || !isTogether(i, depth)) {
-                    return false;
+                if (needs(depth, i)) {
+                    week = Math.max(week, places[i].first + 1);
+                }
+                if (arePartners(depth, i)) {
+                    week = Math.max(week, places[i].first);
                 }
             }
-            return true;
+            return week;
         }
 
-        private boolean isInOrder(int i, int needed) {
-            return !has(course.get(Course.NEEDS, topics[i]), topics[needed]) || firsts[needed] < firsts[i];
+        private int latestFirst(int depth) {
+            int week = WEEKS - 1;
+            for (int i = 0; i < depth; i++) {
+                if (needs(i, depth)) {
+                    week = Math.min(week, places[i].first - 1);
+                }
+                if (arePartners(depth, i)) {
+                    week = Math.min(week, places[i].first);
+                }
+            }
+            return week;
         }
 
-        private boolean isTogether(int i, int partner) {
-            return course.get(Course.PARTNER, topics[i]) != topics[partner] || firsts[partner] == firsts[i];
+        private boolean needs(int i, int other) {
+            return has(course.get(Course.NEEDS, places[i].topic), places[other].topic);
+        }
+
+        private boolean arePartners(int i, int other) {
+            int one = places[i].topic;
+            int two = places[other].topic;
+            return course.get(Course.PARTNER, one) == two || course.get(Course.PARTNER, two) == one;
         }
 
         /** Only what is better counts, so that of several the first stays. */
-        private boolean canBeBest() {
+        private boolean canBeBest(int moves, int evenness) {
             if (aim == COUNT || count == 0) {
                 return true;
             }
@@ -981,13 +1039,14 @@ public final class LessonSpiral {
         }
 
         /** A plan that cannot be the best does not come this far, but where all are counted. */
-        private void keepPlan() {
+        private void keepPlan(int moves, int evenness) {
             count++;
             if (aim != COUNT) {
                 bestMoves = moves;
                 bestEvenness = evenness;
-                System.arraycopy(firsts, 0, bestFirsts, 0, size);
-                System.arraycopy(seconds, 0, bestSeconds, 0, size);
+                for (int i = 0; i < size; i++) {
+                    places[i].keepAsBest();
+                }
             }
         }
     }
