@@ -409,6 +409,7 @@ public final class LessonSpiral {
         if (search.isTooLong()) {
             return finding(LONG);
         }
+        search.listPlaces();
         search.run(aim);
         if (aim == Search.COUNT) {
             return search.count();
@@ -525,7 +526,7 @@ public final class LessonSpiral {
         }
 
         boolean isStrand(int topic) {
-            return get(OWN_KIND, topic) == STRAND;
+            return row[OWN_KIND * TOPICS + topic] == STRAND;
         }
 
         /** A strand goes on all the year, so it is met without a week of its own. */
@@ -728,25 +729,21 @@ public final class LessonSpiral {
             return course.hasSnow(week) ? 0 : course.strands();
         }
 
-        /** Whether the weeks keep laws 2, 4 and 5 as far as these look at one topic alone. */
-        boolean areForTopic(int topic, int first, int second) {
-            return isOpen(first) && returnsInTime(topic, first, second) && isAheadOfTest(topic, first, second);
-        }
-
-        private boolean isOpen(int week) {
+        boolean isOpen(int week) {
             return week != NOT_SET && !course.hasSnow(week);
         }
 
-        private boolean returnsInTime(int topic, int first, int second) {
+        boolean returnsInTime(int topic, int first, int second) {
             int weeks = course.get(Course.RETURN, topic);
             if (weeks == 0) {
                 return second == NOT_SET;
             }
-            return isOpen(second) && second > first && second <= first + weeks;
+            // What is behind a first week is a week, and not none.
+            return second > first && second <= first + weeks && !course.hasSnow(second);
         }
 
         /** No second week is ahead of all weeks, so it is ahead of the test, too. */
-        private boolean isAheadOfTest(int topic, int first, int second) {
+        boolean isAheadOfTest(int topic, int first, int second) {
             int test = course.testWeek();
             return !course.isOfKind(topic, Course.TESTED) || first < test && second < test;
         }
@@ -795,6 +792,8 @@ public final class LessonSpiral {
         private int options;
         private int topic;
         private int hours;
+        private int needs;
+        private int partner;
         private int first;
         private int second;
         private int bestFirst;
@@ -810,10 +809,12 @@ public final class LessonSpiral {
         void begin(int newTopic, Course course, Laws laws) {
             topic = newTopic;
             hours = course.get(Course.HOURS, topic);
+            needs = course.get(Course.NEEDS, topic);
+            partner = course.get(Course.PARTNER, topic);
             options = 0;
             for (int f = 0; f < WEEKS; f++) {
                 for (int s = NOT_SET; s < WEEKS; s++) {
-                    if (laws.areForTopic(topic, f, s)) {
+                    if (laws.isOpen(f) && laws.returnsInTime(topic, f, s) && laws.isAheadOfTest(topic, f, s)) {
                         addOption(course, f, s);
                     }
                 }
@@ -829,6 +830,14 @@ public final class LessonSpiral {
                 moves[options] = firstMoves + secondMoves;
                 options++;
             }
+        }
+
+        boolean isBehind(Place other) {
+            return (needs >> other.topic & 1) != 0;
+        }
+
+        boolean isBeside(Place other) {
+            return partner == other.topic || other.partner == topic;
         }
 
         /** The caller has seen that there is such an option. */
@@ -899,11 +908,10 @@ public final class LessonSpiral {
             return bestMoves;
         }
 
-        /** The caller has seen that it is not too long. */
+        /** The caller has seen that it is not too long, and listed the places. */
         void run(int newAim) {
             aim = newAim;
             count = 0;
-            listPlaces();
             if (startLoads()) {
                 place(0, 0, startEvenness());
             }
@@ -916,7 +924,7 @@ public final class LessonSpiral {
             }
         }
 
-        private void listPlaces() {
+        void listPlaces() {
             size = 0;
             for (int t = 0; t < course.size() && size < LONGEST; t++) {
                 if (!course.isStrand(t)) {
@@ -992,39 +1000,33 @@ public final class LessonSpiral {
 
         /** By laws 3 and 5, beside the topics that have been placed. */
         private int earliestFirst(int depth) {
+            Place here = places[depth];
             int week = 0;
             for (int i = 0; i < depth; i++) {
-                if (needs(depth, i)) {
-                    week = Math.max(week, places[i].first + 1);
+                Place other = places[i];
+                if (here.isBehind(other)) {
+                    week = Math.max(week, other.first + 1);
                 }
-                if (arePartners(depth, i)) {
-                    week = Math.max(week, places[i].first);
+                if (here.isBeside(other)) {
+                    week = Math.max(week, other.first);
                 }
             }
             return week;
         }
 
         private int latestFirst(int depth) {
+            Place here = places[depth];
             int week = WEEKS - 1;
             for (int i = 0; i < depth; i++) {
-                if (needs(i, depth)) {
-                    week = Math.min(week, places[i].first - 1);
+                Place other = places[i];
+                if (other.isBehind(here)) {
+                    week = Math.min(week, other.first - 1);
                 }
-                if (arePartners(depth, i)) {
-                    week = Math.min(week, places[i].first);
+                if (here.isBeside(other)) {
+                    week = Math.min(week, other.first);
                 }
             }
             return week;
-        }
-
-        private boolean needs(int i, int other) {
-            return has(course.get(Course.NEEDS, places[i].topic), places[other].topic);
-        }
-
-        private boolean arePartners(int i, int other) {
-            int one = places[i].topic;
-            int two = places[other].topic;
-            return course.get(Course.PARTNER, one) == two || course.get(Course.PARTNER, two) == one;
         }
 
         /** Only what is better counts, so that of several the first stays. */

@@ -663,6 +663,9 @@ public final class PromisesTest {
         due("22 one", x.plans(), 6);
         x.comes(0, 9);
         due("22 with a return", x.plans(), 15);
+        x.room(5, 0);
+        due("22 no room for a second", x.plans(), 10);
+        x.room(5, 10);
         x.comes(0, 1);
         due("22 with a near return", x.plans(), 5);
         x.snow(2, true);
