@@ -7,20 +7,11 @@ import java.util.Random;
  * Long runs of calls, made by a seed, on LessonSpiral and on a model beside it that follows the
  * document word by word and goes through all plans without any short cut.
  */
-public final class ModelTest {
+public final class ModelTest extends Check {
     private static final int RUNS = 600;
 
     /** With the calls that look at the whole state behind a run these stay under 512. */
     private static final int CALLS_MOST = 420;
-
-    private static final int BEYOND = -100001;
-    private static final int MISSING = -100002;
-    private static final int SIZE = -100003;
-    private static final int KIND = -100004;
-    private static final int FULL = -100005;
-    private static final int NONE = -100006;
-    private static final int RING = -100007;
-    private static final int LONG = -100008;
 
     static final class Topic {
         int kind;

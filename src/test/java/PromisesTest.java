@@ -1,46 +1,5 @@
 /** Each promise of the document by hand: ordinary inputs, the edges that it names, and wrong inputs. */
-public final class PromisesTest {
-    private static final int BEYOND = -100001;
-    private static final int MISSING = -100002;
-    private static final int SIZE = -100003;
-    private static final int KIND = -100004;
-    private static final int FULL = -100005;
-    private static final int NONE = -100006;
-    private static final int RING = -100007;
-    private static final int LONG = -100008;
-
-    private static final int MIN = Integer.MIN_VALUE;
-    private static final int MAX = Integer.MAX_VALUE;
-
-    private static int asked = 0;
-    private static int wrong = 0;
-
-    private static void due(String what, int got, int want) {
-        asked++;
-        if (got != want) {
-            wrong++;
-            System.out.println(what + " answered " + got + ", due is " + want);
-        }
-    }
-
-    /** Topics 0 TOPIC, 1 TESTED, 2 STRAND, 3 JOINT, of 3, 2, 1 and 4 hours. */
-    private static LessonSpiral fourKinds() {
-        LessonSpiral x = new LessonSpiral();
-        x.topic(0, 3);
-        x.topic(1, 2);
-        x.topic(2, 1);
-        x.topic(3, 4);
-        return x;
-    }
-
-    private static LessonSpiral plain(int... hours) {
-        LessonSpiral x = new LessonSpiral();
-        for (int h : hours) {
-            x.topic(0, h);
-        }
-        return x;
-    }
-
+public final class PromisesTest extends Check {
     private static void newObject() {
         LessonSpiral x = new LessonSpiral();
         due("1 topics", x.told(0), 0);
@@ -309,21 +268,6 @@ public final class PromisesTest {
         due("13 missing ahead of number", x.write(0, 9, 1), MISSING);
         due("13 no sheet", x.write(4, 0, 1), BEYOND);
         due("13 no sheet below", x.write(-1, 0, 1), BEYOND);
-    }
-
-    private static void fill(LessonSpiral x, int s, int... numbers) {
-        x.sheet(s, 8, numbers.length);
-        for (int i = 0; i < numbers.length; i++) {
-            x.write(s, i, numbers[i]);
-        }
-    }
-
-    /** Reads a sheet of rooms without snow, and looks at the rooms. */
-    private static void holds(String what, LessonSpiral x, int s, int... numbers) {
-        due(what + " read", x.read(s), numbers.length);
-        for (int i = 0; i < numbers.length; i++) {
-            due(what + " number " + i, x.room(i, 10), numbers[i]);
-        }
     }
 
     private static void copy() {
@@ -1086,9 +1030,6 @@ public final class PromisesTest {
         drift();
         undo();
         told();
-        System.out.println(asked - wrong + " of " + asked + " answers are as due");
-        if (wrong != 0) {
-            System.exit(1);
-        }
+        end();
     }
 }
