@@ -126,6 +126,31 @@ public final class EdgesTest extends Twins {
         }
     }
 
+    /** "at most 8": where all eight are there, none is seen behind the last. */
+    private static void noneBehindTheEighth() {
+        for (int hours = 1; hours <= 9; hours++) {
+            LessonSpiral x = new LessonSpiral();
+            for (int t = 0; t < 8; t++) {
+                x.topic(0, hours);
+                x.put(t, 1);
+                x.again(t, 3);
+                x.comes(t, 9);
+            }
+            x.standards(7, 3);
+            due("2 load of no topic", x.load(0), 0);
+            due("2 load of eight", x.load(1), 8 * hours);
+            due("2 load of eight seconds", x.load(3), 8);
+            due("2 evenness of eight", x.evenness(), 64 * hours * hours + 64);
+            due("2 standards of eight", x.met(false), 3);
+            due("2 the eighth alone", x.only(0), 7);
+            due("2 the eighth alone, too", x.only(1), 7);
+            due("2 drift of eight", x.drift(5), 8 * hours + 8);
+            due("2 nothing is needed", x.late(2, false), 0);
+            due("2 fault of eight", x.fault(), 8 * hours > 10 ? 701 : 0);
+            due("2 eight are too many", x.plans(), LONG);
+        }
+    }
+
     /** "Each has HOURS (1 to 9), NEEDS (none at first), a RETURN (0: none, at first), STANDARDS (none at first)". */
     private static void topicAtFirst() {
         for (int hours = 1; hours <= 9; hours++) {
@@ -872,6 +897,7 @@ public final class EdgesTest extends Twins {
 
     private static void topicEdges() {
         eightTopics();
+        noneBehindTheEighth();
         topicAtFirst();
         kindsUnder();
         needOnAndOff();

@@ -121,7 +121,8 @@ public final class LawsTest extends Check {
     private static void law5() {
         for (int kind : OWN_KINDS) {
             for (int first = 0; first < 6; first++) {
-                for (int second = first == 5 ? -1 : first; second < 6; second++) {
+                // The first week itself stands for no second one.
+                for (int second = first; second < 6; second++) {
                     for (int test = 0; test <= 6; test++) {
                         boolean isAny = second > first;
                         LessonSpiral x = new LessonSpiral();

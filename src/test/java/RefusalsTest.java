@@ -119,9 +119,10 @@ public final class RefusalsTest extends Twins {
         refused("4 RING of eight, down", RefusalsTest::chainDown, x -> x.need(7, 0, true), RING);
     }
 
+    /** Eight topics, of which each needs the one ahead of it. */
     private static int chain(LessonSpiral x) {
-        full(x);
-        int sum = x.need(1, 0, false) + x.need(3, 1, false) + x.need(4, 2, false) + x.need(5, 4, false);
+        withoutNeeds(x);
+        int sum = 0;
         for (int t = 0; t < 7; t++) {
             sum += x.need(t + 1, t, true);
         }
@@ -129,12 +130,20 @@ public final class RefusalsTest extends Twins {
     }
 
     private static int chainDown(LessonSpiral x) {
-        full(x);
-        int sum = x.need(1, 0, false) + x.need(3, 1, false) + x.need(4, 2, false) + x.need(5, 4, false);
+        withoutNeeds(x);
+        int sum = 0;
         for (int t = 0; t < 7; t++) {
             sum += x.need(t, t + 1, true);
         }
         return sum;
+    }
+
+    private static void withoutNeeds(LessonSpiral x) {
+        full(x);
+        x.need(1, 0, false);
+        x.need(3, 1, false);
+        x.need(4, 2, false);
+        x.need(5, 4, false);
     }
 
     private static void comes() {
